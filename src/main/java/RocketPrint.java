@@ -483,16 +483,16 @@ public final class RocketPrint {
     }
 
     private int windsLeftAtWorst(int w, int winds) {
+        show.night.become(told);
         int most = 0;
         for (int place = 0; place < PLACES; place++) {
-            most = Math.max(most, windsThatDrop(w, place, winds));
+            most = Math.max(most, windsThatDrop(show.night, w, place, winds));
         }
         return most;
     }
 
-    private int windsThatDrop(int w, int place, int winds) {
-        Night trial = show.night;
-        trial.become(told);
+    /** How many of the winds let the STICK of a WORK come down at a PLACE. */
+    private static int windsThatDrop(Night trial, int w, int place, int winds) {
         int found = 0;
         for (int wind = 0; wind < WINDS; wind++) {
             trial.wind = wind;
@@ -917,8 +917,10 @@ public final class RocketPrint {
 
         private int minutesOfAll() {
             int minutes = 0;
-            for (int w = 0; w < night.works; w++) {
-                minutes += minutesByAll(w);
+            for (int r = 0; r < night.readers; r++) {
+                for (int w = 0; w < night.works; w++) {
+                    minutes += minutesAt(r, w);
+                }
             }
             return minutes;
         }
@@ -945,8 +947,12 @@ public final class RocketPrint {
 
         private int wholesOfAll() {
             int wholes = 0;
-            for (int w = 0; w < night.works; w++) {
-                wholes += Integer.bitCount(readersWhole(w));
+            for (int r = 0; r < night.readers; r++) {
+                for (int w = 0; w < night.works; w++) {
+                    if (isWhole(r, w)) {
+                        wholes++;
+                    }
+                }
             }
             return wholes;
         }
