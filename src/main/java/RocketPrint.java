@@ -896,7 +896,8 @@ public final class RocketPrint {
         }
 
         private boolean isWhole(int r, int w) {
-            return stop[w] > start[w] && minutesAt(r, w) == stop[w] - start[w];
+            // The same as to look at it in all its minutes, in far fewer steps.
+            return isWholeAlone(r, w) && rivalsOf(r, w) == 0;
         }
 
         private int minutesOf(int r) {
@@ -959,12 +960,15 @@ public final class RocketPrint {
 
         /** Whether a READER would READ a WORK WHOLE if no other went up. */
         private boolean isWholeAlone(int r, int w) {
+            if (stop[w] <= start[w] || !reaches(r, w)) {
+                return false;
+            }
             for (int m = start[w]; m < stop[w]; m++) {
                 if (coughsAt(r, m)) {
                     return false;
                 }
             }
-            return stop[w] > start[w] && reaches(r, w);
+            return true;
         }
 
         /** How many other WORKS would draw a READER off a WORK in any minute of it. */
