@@ -926,8 +926,8 @@ public final class PromisesTest {
     /** drift() is what rule() tells of each night by its WIND and DAMP. */
     private static void driftByEachNight() {
         String night = "star 9 0 3;wheel 3 2 7;fountain 6 1 9;squib 0 4 5;reader 5 0;reader 0 3;reader 9 0;";
-        RocketPrint x = of(night);
         for (int seed : new int[] {1, -1, 99991, LOW, HIGH, 1 << 30}) {
+            RocketPrint x = of(night);
             RocketPrint y = of(night);
             int next = seed;
             int wholes = 0;
