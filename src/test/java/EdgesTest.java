@@ -2,6 +2,7 @@
 public final class EdgesTest {
     public static void main(String[] args) throws Exception {
         Sentences says = new Sentences();
+        new UseEdges(says).all();
         new TermEdges(says).all();
         new TextEdges(says).all();
         new CallEdges(says).all();

@@ -18,6 +18,7 @@ public final class FaceTest {
         constants();
         members();
         methodsOfTheDocument();
+        groupsOfTheDocument();
         CHECK.finish();
     }
 
@@ -76,6 +77,29 @@ public final class FaceTest {
         CHECK.holds("methods are those of the document: " + open, open.equals(due));
         closedNames.retainAll(openNames);
         CHECK.holds("no private method bears a public name: " + closedNames, closedNames.isEmpty());
+    }
+
+    /** 'Ahead of the calls .. the interface says: ---- ..': so it does in the program, in the document's order. */
+    private static void groupsOfTheDocument() throws Exception {
+        String doc = Files.readString(Path.of("../shared/DOC.md"));
+        String program = Files.readString(Path.of("src/main/java/RocketPrint.java"));
+        Matcher groups = Pattern.compile("Ahead of the calls ([^\n]*) the interface says: (---- [^\n]*)\\.\n").matcher(doc);
+        int calls = 0;
+        int place = 0;
+        while (groups.find()) {
+            place = found(program, "    // " + groups.group(2) + "\n", place);
+            for (String name : groups.group(1).replace("`", "").split(", ")) {
+                place = found(program, " " + name + "(", program.indexOf("    public ", place));
+                calls++;
+            }
+        }
+        CHECK.due("calls that stand in groups", calls, 44);
+    }
+
+    private static int found(String program, String words, int from) {
+        int place = program.indexOf(words, Math.max(from, 0));
+        CHECK.holds("the program has, in its order: " + words.trim(), place >= 0);
+        return Math.max(place, 0);
     }
 
     private static String signature(Method method) {

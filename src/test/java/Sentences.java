@@ -9,7 +9,7 @@ import java.util.regex.Pattern;
 
 /** Tests by sentences of the document: each names its own, which must stand there word for word. */
 final class Sentences {
-    static final int TERMS = 0, PROMISES = 45;
+    static final int USE = -1, TERMS = 0, PROMISES = 45;
 
     private final Check check = new Check();
     private final Map<Integer, String> sections = new TreeMap<>();
@@ -17,13 +17,14 @@ final class Sentences {
 
     Sentences() throws IOException {
         String doc = Files.readString(Path.of("../shared/DOC.md"));
+        section(USE, "An object" + between(between(doc, "## What it is", "## The public face") + "##", "An object", "##"));
         section(TERMS, between(doc, "## Terms", "Ahead of the calls").replace("```text", "").replace("```", "")
                 .replace("======== 1 ", ""));
         Matcher m = Pattern.compile("(?s)\n## Promise (\\d+): [^\n]*\n\n`[^`]*`: (.*?)(?=\n## )").matcher(doc);
         while (m.find()) {
             section(Integer.parseInt(m.group(1)), m.group(2));
         }
-        check.due("sections of the document", sections.size(), PROMISES + 1);
+        check.due("sections of the document", sections.size(), PROMISES + 2);
     }
 
     private static String between(String doc, String from, String to) {
@@ -40,6 +41,10 @@ final class Sentences {
         return check;
     }
 
+    void use(String sentence, Runnable test) {
+        test(USE, sentence, test);
+    }
+
     void term(String sentence, Runnable test) {
         test(TERMS, sentence, test);
     }
@@ -49,7 +54,7 @@ final class Sentences {
     }
 
     private void test(int number, String sentence, Runnable test) {
-        String where = number == TERMS ? "Terms" : "promise " + number;
+        String where = number == USE ? "What it is" : number == TERMS ? "Terms" : "promise " + number;
         int start = sections.get(number).indexOf(sentence);
         check.holds(where + " says: " + sentence, start >= 0);
         if (start >= 0) {
