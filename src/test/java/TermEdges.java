@@ -408,5 +408,18 @@ final class TermEdges extends Edges {
         due("the last that may be", u.work(0, 8), 1);
         RocketPrint v = of("wheel 5 0 1;star 8 0 3;reader 6 0;");
         due("one that is nearer, but not WIDE, takes nothing", v.work(1, 8), 1);
+        farther();
+    }
+
+    /** One that is farther off takes nothing, whichever comes first by order; of two as near the first takes. */
+    private void farther() {
+        int[][] places = {{6, 5}, {5, 6}, {4, 6}};
+        int[] whole = {2, 1, 1};
+        for (int i = 0; i < places.length; i++) {
+            RocketPrint x = of("star " + places[i][0] + " 0 9;star " + places[i][1] + " 0 9;reader 5 0;");
+            due("of " + places[i][0] + " and " + places[i][1] + ", read from 5", x.reader(0, 2), whole[i]);
+            due("the first", x.work(0, 8), whole[i] & 1);
+            due("the second", x.work(1, 8), whole[i] >> 1);
+        }
     }
 }

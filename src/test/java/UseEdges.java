@@ -2,7 +2,7 @@ import java.util.List;
 
 /** An object to the last of its 512 calls, and several beside one another. */
 final class UseEdges extends Edges {
-    private static final int CALLS = 512, TOLD_BY = 5, KINDS = 12;
+    private static final int CALLS = 512, TOLD_BY = 5, KINDS = 12, QUESTIONS = 25;
 
     UseEdges(Sentences says) {
         super(says);
@@ -13,6 +13,7 @@ final class UseEdges extends Edges {
         says.use("An object is used for at most 512 calls after it has been made;", () -> {
             toTheLastCall();
             theLastIsAnyCall();
+            askedBehindAnother();
         });
         says.use("what later calls answer is free.", () -> {
             RocketPrint x = full();
@@ -101,6 +102,69 @@ final class UseEdges extends Edges {
             case 9 -> x.sheet(3, 2, 40);
             case 10 -> x.text();
             default -> x.feed('x');
+        };
+    }
+
+    /** Whatever was asked or changed right ahead of it, a question is answered of what is told now. */
+    private void askedBehindAnother() {
+        for (int asked = 0; asked < QUESTIONS; asked++) {
+            long want = question(asNow(), asked);
+            for (int ahead = 0; ahead < QUESTIONS; ahead++) {
+                RocketPrint x = asNow();
+                question(x, ahead);
+                due("question " + asked + " behind " + ahead, question(x, asked), want);
+            }
+            RocketPrint y = of("wheel 0 30 2;squib 9 31 5;fountain 4 8 3;reader 2 5;wind 2;damp 1;");
+            for (int ahead = 0; ahead < QUESTIONS; ahead++) {
+                question(y, ahead);
+            }
+            becomeNow(y);
+            due("question " + asked + " behind what is changed", question(y, asked), want);
+        }
+    }
+
+    private RocketPrint asNow() {
+        return of("star 5 2 9;wheel 6 4 8;reader 6 0;reader 4 3;wind 5;");
+    }
+
+    private static void becomeNow(RocketPrint x) {
+        x.burn(0);
+        x.leave(0);
+        x.damp(0);
+        x.blow(5);
+        x.write(0, 5, 2, 9);
+        x.write(1, 6, 4, 8);
+        x.come(6, 0);
+        x.come(4, 3);
+    }
+
+    private static long question(RocketPrint x, int which) {
+        return switch (which) {
+            case 0 -> x.rule(4);
+            case 1 -> x.rule(5);
+            case 2 -> x.work(0, 8);
+            case 3 -> x.reader(0, 2);
+            case 4 -> x.reader(0, 3);
+            case 5 -> x.reads(0, 0);
+            case 6 -> x.looks(0, 4);
+            case 7 -> x.sky(4);
+            case 8 -> x.first(0);
+            case 9 -> x.dark();
+            case 10 -> x.peak(0, 0);
+            case 11 -> x.when(0, 0);
+            case 12 -> x.stand(0, 1);
+            case 13 -> x.swap(1);
+            case 14 -> x.lose(1);
+            case 15 -> x.need(0, 0);
+            case 16 -> x.dry(0);
+            case 17 -> x.kind(0, 1);
+            case 18 -> x.luck(3, 0, 0, 0);
+            case 19 -> x.mean(3, 0);
+            case 20 -> x.winds();
+            case 21 -> x.froms(0);
+            case 22 -> x.kinds(0);
+            case 23 -> x.ask(0);
+            default -> x.drift(5, 9, 1);
         };
     }
 
